@@ -849,10 +849,7 @@ public final class OutageScreen {
                 rows[i][c] = isSlack && c == i ? 1 : 0;
             }
             rows[i][n] = isSlack ? 0 : grid.own[i];
-            rows[i][n + 1] = 0;
-            if (!isSlack) {
-                rows[i][n + 1] = (i == plus ? 1 : 0) - (i == minus ? 1 : 0);
-            }
+            rows[i][n + 1] = isSlack ? 0 : (i == plus ? 1 : 0) - (i == minus ? 1 : 0);
         }
 
         // The angle of a slack bus is 0: without its column the matrix is symmetric and positive definite.
