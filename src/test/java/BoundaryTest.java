@@ -22,6 +22,7 @@ public final class BoundaryTest {
     private static final int NONE = -1, BAD = -2, NO = -3, FULL = -4;
     private static final int LEAST = Integer.MIN_VALUE, GREATEST = Integer.MAX_VALUE;
     private static final int PROMISES = 28;
+    private static final String[] WORDS = {"bus", "line", "open", "close", "limit", "strength", "drop", "begin"};
 
     private static int wrong = 0;
     private static int row = 0;
@@ -160,8 +161,9 @@ public final class BoundaryTest {
     private static List<Long> inside(OutageScreen x) {
         List<Long> all = new ArrayList<>();
         all.add(bareDigest(x));
-        for (long left = x.back(); left >= 0; left = x.back()) {
-            all.add(left);
+        // At most 8 grids are kept, so that the ninth back() has none.
+        for (int i = 0; i < 9; i++) {
+            all.add((long) x.back());
             all.add(bareDigest(x));
         }
         all.add((long) x.does());
@@ -735,6 +737,42 @@ public final class BoundaryTest {
         asks(BoundaryTest::chain, NONE, x -> x.pair(1, 0));
     }
 
+    // 1, 0 or -1, as the first fraction is greater, the same or less.
+    private static int compare(long top, long bottom, long otherTop, long otherBottom) {
+        return BigInteger.valueOf(top).multiply(BigInteger.valueOf(otherBottom))
+            .compareTo(BigInteger.valueOf(otherTop).multiply(BigInteger.valueOf(bottom)));
+    }
+
+    @Says(at = "OUTAGES", text = "The worst line of a state is, of the lines in service, "
+        + "the one with the greatest loading")
+    private static void d5LoadingsOfTheLargestGrid() {
+        OutageScreen x = wheel();
+        for (int l = 0; l < 10; l++) {
+            x.sets(l, 1, 999 - 7 * l % 5);
+        }
+        int worst = 0;
+        for (int l = 1; l < 10; l++) {
+            long top = Math.abs(x.flow(l, 0));
+            long worstTop = Math.abs(x.flow(worst, 0));
+            if (compare(top, x.flow(l, 1) * x.of(l, 3), worstTop, x.flow(worst, 1) * x.of(worst, 3)) > 0) {
+                worst = l;
+            }
+        }
+        due(x.worst(NONE, 0), worst);
+        due(compare(x.worst(NONE, 1), x.worst(NONE, 2),
+            Math.abs(x.flow(worst, 0)), x.flow(worst, 1) * x.of(worst, 3)), 0);
+        for (int i = 1; i < 10; i++) {
+            int before = x.ranked(i - 1);
+            int after = x.ranked(i);
+            int order = compare(x.worst(before, 1), x.worst(before, 2), x.worst(after, 1), x.worst(after, 2));
+            due(order > 0 || order == 0 && before < after ? 1 : 0, 1);
+        }
+        for (int i = 1; i < 45; i++) {
+            int order = compare(x.pair(i - 1, 2), x.pair(i - 1, 3), x.pair(i, 2), x.pair(i, 3));
+            due(order >= 0 ? 1 : 0, 1);
+        }
+    }
+
     // ---- COMMANDS
 
     @Says(at = "COMMANDS", text = "The text has at most 120 bytes and is empty at first.")
@@ -968,11 +1006,17 @@ public final class BoundaryTest {
         fault("begi 2;", 0);
         fault("a", 0);
         fault("z", 0);
+        // A single letter is another one.
+        for (String word : WORDS) {
+            for (int i = 0; i < word.length(); i++) {
+                fault(" " + word.substring(0, i) + "x" + word.substring(i + 1) + " 0 0;", 1);
+            }
+        }
     }
 
     @Says(at = "COMMANDS", text = "(also if the text ends with the beginning of such a word)")
     private static void f7BeginningOfAWord() {
-        for (String word : new String[] {"bus", "line", "open", "close", "limit", "strength", "drop", "begin"}) {
+        for (String word : WORDS) {
             for (int length = 1; length < word.length(); length++) {
                 fault(word.substring(0, length), 0);
                 fault("begin 2; " + word.substring(0, length), 9);
@@ -1539,6 +1583,11 @@ public final class BoundaryTest {
         // The other islands do not matter.
         asks(BoundaryTest::parts, 8, x -> x.trees(0), x -> x.trees(1), x -> x.trees(2));
         asks(BoundaryTest::parts, 5, x -> x.trees(3), x -> x.trees(4));
+        OutageScreen x = parts();
+        x.sets(0, 0, 5);
+        due(x.trees(0), 16);
+        due(x.trees(4), 5);
+        due(x.trees(5), 1);
     }
 
     // ---- Promise 14: fed
